@@ -76,6 +76,7 @@ public final class DeltasTest {
         Check.refuses(x, "delta 17", () -> x.delta(0, 0), PackDesk.FULL);
         Check.refuses(x, "delta: UNKNOWN ahead of FULL", () -> x.delta(1, 0), PackDesk.UNKNOWN);
         Check.refuses(x, "delta to none", () -> x.delta(0, -1), PackDesk.UNKNOWN);
+        Check.refuses(x, "act of delta 17", () -> x.act(16, 0, 0), PackDesk.UNKNOWN);
         Check.due("count(5)", x.count(5), 16);
     }
 

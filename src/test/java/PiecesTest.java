@@ -121,6 +121,8 @@ public final class PiecesTest {
         reads("a run that could be longer", Check.HARMED, Check.piece(163, 4, 3, 14, 2, 14, 0));
         reads("a run below 0", Check.HARMED, Check.piece(163, 4, 1, 14, 1));
         reads("a run that is too long", Check.HARMED, Check.piece(163, 4, 3, 14, 6));
+        reads("a run of 25 of 24", Check.HARMED, Check.piece(163, 4, 24, 0, 48));
+        reads("runs of 25 of 24", Check.HARMED, Check.piece(163, 4, 24, 0, 44, 2, 2));
         reads("runs that are too short", Check.HARMED, Check.piece(163, 4, 3, 14, 2));
         reads("a run without its length", Check.HARMED, Check.piece(163, 4, 3, 14));
         reads("a byte behind the runs", Check.HARMED, Check.piece(163, 4, 3, 14, 4, 0));

@@ -39,6 +39,7 @@ public final class RowsTest {
             for (int i = 0; i < r % 25; i++) Check.due("a new number", Check.whole(x, r, i), 0);
         }
         Check.refuses(x, "row 61", () -> x.row(0, 0), PackDesk.FULL);
+        Check.refuses(x, "kind of row 61", () -> x.kind(60), PackDesk.UNKNOWN);
         x.lose(3);
         Check.refuses(x, "row 61, when one is lost", () -> x.row(0, 0), PackDesk.FULL);
         Check.refuses(x, "row: OUTSIDE ahead of FULL", () -> x.row(8, 0), PackDesk.OUTSIDE);

@@ -21,6 +21,7 @@ public final class StoreTest {
         PackDesk x = new PackDesk();
         for (int h = 0; h < 6; h++) Check.due("house", x.house(), h);
         Check.refuses(x, "house 7", () -> x.house(), PackDesk.FULL);
+        Check.refuses(x, "find in house 7", () -> x.find(6, 0), PackDesk.UNKNOWN);
         Check.due("count(4)", x.count(4), 6);
     }
 
@@ -157,6 +158,11 @@ public final class StoreTest {
         Check.due("it is gone", x.uses(0), 0);
         Check.due("bodies at hand", x.count(2), 1);
         Check.due("drop it again", x.drop(0, 7), PackDesk.NONE);
+        x.keep(0, 0, b);
+        Check.due("find by 0", x.find(0, 0), 1);
+        Check.due("take by 0", x.take(0, 0), 2);
+        Check.due("drop by 0", x.drop(0, 0), 1);
+        Check.due("find by 0 no more", x.find(0, 0), PackDesk.NONE);
         Check.refuses(x, "find in none", () -> x.find(2, -1), PackDesk.UNKNOWN);
         Check.refuses(x, "find by -1", () -> x.find(0, -1), PackDesk.OUTSIDE);
         Check.refuses(x, "drop in none", () -> x.drop(-1, -1), PackDesk.UNKNOWN);

@@ -21,6 +21,7 @@ public final class StreamsTest {
             Check.due("its sum", x.about(s, 3), 0);
         }
         Check.refuses(x, "stream 25", () -> x.stream(), PackDesk.FULL);
+        Check.refuses(x, "about stream 25", () -> x.about(24, 0), PackDesk.UNKNOWN);
         Check.due("count(1)", x.count(1), 24);
     }
 
