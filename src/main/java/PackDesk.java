@@ -25,6 +25,12 @@ public final class PackDesk {
     private static final int MOST_MADE = 264;
     private static final int LEAST_COPY = 4;
 
+    private static final long LONG_SIGN = 1L << 63, ALL_BUT_LONG_SIGN = LONG_SIGN - 1;
+    /** A float's sign reaches up through the long that tells it, as an int's does. */
+    private static final long INT_SIGN = -1L << 31, ALL_BUT_INT_SIGN = (1L << 31) - 1;
+    private static final long ENDLESS_FLOAT = 0x7F800000L, ENDLESS_DOUBLE = 0x7FF0000000000000L;
+    private static final long FLOAT_GAP = 0x7FC00000L, DOUBLE_GAP = 0x7FF8000000000000L;
+
     private final Row[] rows = new Row[MOST_ROWS];
     private final Stream[] streams = new Stream[MOST_STREAMS];
     private final House[] houses = new House[MOST_HOUSES];
@@ -566,7 +572,7 @@ public final class PackDesk {
         /** Orders the NUMBERS of a KIND, with -0.0 below 0.0. */
         static long rank(int kind, long whole) {
             // The bits of those below 0 grow as the NUMBERS fall.
-            return areFloating(kind) ? whole ^ ((whole >> 63) & Long.MAX_VALUE) : whole;
+            return areFloating(kind) ? whole ^ ((whole >> 63) & ALL_BUT_LONG_SIGN) : whole;
         }
 
         static int compared(int kind, long one, long other) {
@@ -622,13 +628,13 @@ public final class PackDesk {
             return kind == FLOATS ? 127 : 1023;
         }
 
-        /** The WHOLE of -0.0: a float's reaches up through the long, as an int's sign does. */
+        /** The WHOLE of -0.0. */
         static long signBit(int kind) {
-            return kind == FLOATS ? Integer.MIN_VALUE : Long.MIN_VALUE;
+            return kind == FLOATS ? INT_SIGN : LONG_SIGN;
         }
 
         private static long endless(int kind) {
-            return kind == FLOATS ? 0x7F800000L : 0x7FF0000000000000L;
+            return kind == FLOATS ? ENDLESS_FLOAT : ENDLESS_DOUBLE;
         }
 
         private static long oneOf(int kind) {
@@ -636,7 +642,7 @@ public final class PackDesk {
         }
 
         private static long sizeOf(int kind, long whole) {
-            return whole < 0 ? whole ^ signBit(kind) : whole;
+            return whole & (kind == FLOATS ? ALL_BUT_INT_SIGN : ALL_BUT_LONG_SIGN);
         }
 
         private static long withSign(int kind, long size, boolean below) {
@@ -648,8 +654,9 @@ public final class PackDesk {
         }
 
         static long orGap(int kind, long whole) {
-            if (!isNone(kind, whole)) return whole;
-            return kind == FLOATS ? 0x7FC00000L : 0x7FF8000000000000L;
+            // Asks without isNone(), as read() calls deep enough to here.
+            if (sizeOf(kind, whole) <= endless(kind)) return whole;
+            return kind == FLOATS ? FLOAT_GAP : DOUBLE_GAP;
         }
 
         static long signOf(int kind, long whole) {
@@ -928,7 +935,7 @@ public final class PackDesk {
 
         int sum(int start, int stop) {
             int sum = 0;
-            for (int i = start; i < stop; i++) sum = (31 * sum + byteAt(i)) & 65535;
+            for (int i = Math.max(0, start); i < stop && i < bytes.length; i++) sum = (31 * sum + (bytes[i] & 255)) & 65535;
             return sum;
         }
 
