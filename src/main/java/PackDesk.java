@@ -37,7 +37,7 @@ public final class PackDesk {
     private final Delta[] deltas = new Delta[MOST_DELTAS];
     private final Store store = new Store();
     private final Packer packer = new Packer();
-    private final PieceReader reader = new PieceReader(packer);
+    private final PieceReader reader = new PieceReader();
     private final int[] timesFound = new int[MISFIT + 1];
     private int rowsMade;
     private int streamsMade;
@@ -256,7 +256,7 @@ public final class PackDesk {
     public int read(int s) {
         Stream stream = streamNumbered(s);
         if (stream == null) return UNKNOWN;
-        int wrong = reader.examine(stream, stream.place);
+        int wrong = reader.examine(packer, stream, stream.place);
         if (wrong != FINE) return found(wrong);
         if (rowsMade >= MOST_ROWS) return FULL;
         int r = newRow(reader.ofKind, reader.howMany);
@@ -271,7 +271,7 @@ public final class PackDesk {
         int readable = 0;
         int place = 0;
         // The bound is safe: each PIECE has seven bytes at least.
-        while (readable < MOST_BYTES && reader.examine(stream, place) == FINE) {
+        while (readable < MOST_BYTES && reader.examine(packer, stream, place) == FINE) {
             readable++;
             place = reader.behind;
         }
@@ -951,17 +951,12 @@ public final class PackDesk {
 
     /** Looks at the PIECES of STREAMS, and tells what it saw in the latest one. */
     private static final class PieceReader {
-        private final Packer packer;
         int ofKind;
         int howMany;
         int behind;
 
-        PieceReader(Packer packer) {
-            this.packer = packer;
-        }
-
         /** FINE, with the NUMBERS in the packer, or the FINDING that the PIECE at a place has. */
-        int examine(Stream stream, int place) {
+        int examine(Packer packer, Stream stream, int place) {
             int left = stream.size - place;
             if (left == 0) return ENDS;
             if (left < FRAME) return SHORT;

@@ -132,7 +132,8 @@ public final class CodersTest {
         x.row(4, 1);
         x.lose(2);
         int s = x.stream();
-        for (int k = 0; k < 392; k++) x.add(s, k);
+        x.row(4, 0);
+        for (int k = 1; k <= 56; k++) Check.due("write", x.write(s, 3, 0), 7 * k);
         Check.refuses(x, "write of 9 bytes behind 392", () -> x.write(s, 1, 0), PackDesk.FULL);
         Check.refuses(x, "write: NULL ahead of FULL", () -> x.write(s, 2, 0), Check.NULL);
         Check.due("write of 8 bytes behind 392", x.write(s, 0, 0), 400);

@@ -145,19 +145,32 @@ public final class DeltasTest {
         Check.dueBytes("its bytes are copied", Check.bytes(x, x.apply(d, twin)), 9, 2, 0, 5, 6);
     }
 
+    /** Each of these has 400 bytes in one STREAM, so that 112 calls are left. */
     private static void theLongestDeltas() {
-        int[] zeros = new int[400];
-        dueActs("400 like bytes", zeros, zeros, copy(0, 400));
-        int[] most = new int[400], counted = new int[400];
+        int[] zeros = new int[400], most = new int[400], counted = new int[400];
         for (int i = 0; i < 400; i++) {
             most[i] = i % 5 == 0 ? 200 : i % 5;
             counted[i] = i % 256;
         }
-        int[][] acts = new int[160][];
-        for (int i = 0; i < 160; i++) acts[i] = i % 2 == 0 ? add(1) : copy(0, 4);
-        dueActs("160 acts", bytes(1, 2, 3, 4), most, acts);
-        dueActs("400 added", bytes(), counted, add(400));
-        dueActs("the end of 400", counted, Arrays.copyOfRange(counted, 396, 400), copy(140, 4));
+        dueTotals("400 like bytes", zeros, null, 1, 400, 0);
+        dueTotals("400 bytes to themselves", counted, null, 1, 400, 0);
+        dueTotals("160 acts", bytes(1, 2, 3, 4), most, 160, 320, 80);
+        dueTotals("400 added", bytes(), counted, 1, 0, 400);
+        dueTotals("nothing of 400", counted, bytes(), 0, 0, 0);
+        dueActs("the end of 256", Arrays.copyOf(counted, 256), bytes(252, 253, 254, 255), copy(252, 4));
+    }
+
+    private static void dueTotals(String what, int[] a, int[] b, int acts, int copied, int added) {
+        PackDesk x = new PackDesk();
+        int from = Check.stream(x, a), to = b == null ? from : Check.stream(x, b);
+        int d = x.delta(from, to);
+        Check.due(what + ": acts", x.act(d, -1, 0), acts);
+        Check.due(what + ": copied", x.act(d, -1, 1), copied);
+        Check.due(what + ": added", x.act(d, -1, 2), added);
+        int made = x.apply(d, from);
+        Check.due(what + ": bytes", x.about(made, 0), x.about(to, 0));
+        Check.due(what + ": the sum", x.about(made, 3), Check.sum(b == null ? a : b));
+        for (int i = 0; i < 20 && i < x.about(to, 0); i++) Check.due(what + ": byte " + i, x.at(made, i), x.at(to, i));
     }
 
     private static void everyDeltaMakesItsStream() {

@@ -1,7 +1,7 @@
 /** The boundary cases of the promises 26 to 32: THE STORE and its HOUSES. */
 final class HousesCases {
-    /** STREAM 0 is ENDED and has one byte, n; HOUSES 0 to 2 have BODIES 0 to 29 of {0} to {29}, a PATH each, 0 to 29. */
-    static final String THIRTY = thirty();
+    /** STREAM 0 is ENDED, and the HOUSES 0 to 2 have 30 BODIES of one byte each; the PATHS are 0 to 29 as the BODIES are. */
+    static final String THIRTY = "6 x house()\nstream(); add(0, 0); end(0)\n" + thirtyBodies();
 
     private HousesCases() {
     }
@@ -18,11 +18,12 @@ final class HousesCases {
         uses(doc);
     }
 
-    private static String thirty() {
-        StringBuilder calls = new StringBuilder("6 x house()\nstream(); add(0, 0); end(0)\n");
-        for (int n = 0; n < 30; n++) {
-            if (n > 0) calls.append("harm(0, 0, ").append(n ^ (n - 1)).append("); ");
-            calls.append("keep(").append(n / 12).append(", ").append(n).append(", 0) = ").append(n).append("\n");
+    /** STREAM 0 has one byte, 0, and is ENDED: the HOUSES 0 to 2 come to have the BODIES 0 to 29, and STREAM 0 has 29. */
+    static String thirtyBodies() {
+        StringBuilder calls = new StringBuilder("keep(0, 0, 0) = 0\n");
+        for (int n = 1; n < 30; n++) {
+            calls.append("harm(0, 0, ").append((n - 1) ^ n).append("); keep(").append(n / 12).append(", ").append(n)
+                    .append(", 0) = ").append(n).append("\n");
         }
         return calls.append("count(2) = 30\n").toString();
     }

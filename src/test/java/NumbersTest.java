@@ -152,9 +152,9 @@ public final class NumbersTest {
     }
 
     private static void shapeRefuses() {
-        PackDesk x = new PackDesk();
-        for (int kind = 0; kind < 8; kind++) x.row(kind, 2);
         for (int kind = 0; kind < 8; kind++) {
+            PackDesk x = new PackDesk();
+            for (int k = 0; k < 8; k++) x.row(k, 2);
             int r = kind;
             for (int way = 1; way <= 4; way++) {
                 int w = way;
@@ -171,7 +171,9 @@ public final class NumbersTest {
             Check.refuses(x, "shape of a lost one", () -> x.shape(r, 0, 3), r < 6 ? PackDesk.STATE : Check.NULL);
             Check.refuses(x, "shape of a lost one", () -> x.shape(r, 5, 0), Check.NULL);
         }
-        Check.refuses(x, "shape of none", () -> x.shape(8, 0, 6), PackDesk.UNKNOWN);
+        PackDesk x = new PackDesk();
+        x.row(6, 2);
+        Check.refuses(x, "shape of none", () -> x.shape(1, 0, 6), PackDesk.UNKNOWN);
         Check.refuses(x, "shape of none", () -> x.shape(-1, 0, 0), PackDesk.UNKNOWN);
     }
 

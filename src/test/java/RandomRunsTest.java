@@ -105,6 +105,7 @@ public final class RandomRunsTest {
     }
 
     private void call(String name, Object... arguments) throws ReflectiveOperationException {
+        if (calls.size() == CALLS) return;
         Method method = methods.stream().filter(m -> m.getName().equals(name)).findFirst().orElseThrow();
         long got = ((Number) method.invoke(desk, arguments)).longValue();
         long want = ((Number) Model.class.getMethod(name, method.getParameterTypes()).invoke(model, arguments)).longValue();

@@ -5,6 +5,7 @@ public final class RowsTest {
     public static void main(String[] args) {
         newObject();
         rowsAreMade();
+        newNumbersAre0();
         rowRefuses();
         loseTells();
         kindAndLength();
@@ -36,7 +37,6 @@ public final class RowsTest {
             Check.due("row " + r, x.row(r % 8, r % 25), r);
             Check.due("kind " + r, x.kind(r), r % 8);
             Check.due("length " + r, x.length(r), r % 25);
-            for (int i = 0; i < r % 25; i++) Check.due("a new number", Check.whole(x, r, i), 0);
         }
         Check.refuses(x, "row 61", () -> x.row(0, 0), PackDesk.FULL);
         Check.refuses(x, "kind of row 61", () -> x.kind(60), PackDesk.UNKNOWN);
@@ -44,6 +44,14 @@ public final class RowsTest {
         Check.refuses(x, "row 61, when one is lost", () -> x.row(0, 0), PackDesk.FULL);
         Check.refuses(x, "row: OUTSIDE ahead of FULL", () -> x.row(8, 0), PackDesk.OUTSIDE);
         Check.refuses(x, "row: FULL ahead of SIZE", () -> x.row(0, -1), PackDesk.FULL);
+    }
+
+    private static void newNumbersAre0() {
+        for (int kind : KINDS) {
+            PackDesk x = new PackDesk();
+            int r = x.row(kind, 24);
+            for (int i = 0; i < 24; i++) Check.due("a new number", Check.whole(x, r, i), 0);
+        }
     }
 
     private static void rowRefuses() {
@@ -130,12 +138,12 @@ public final class RowsTest {
     }
 
     private static void putAndGetRefuse() {
-        PackDesk x = new PackDesk();
-        x.row(4, 3);
-        x.row(4, 0);
-        x.row(4, 3);
-        x.lose(2);
         for (int i : new int[] {-1, 3, Integer.MAX_VALUE, Integer.MIN_VALUE}) {
+            PackDesk x = new PackDesk();
+            x.row(4, 3);
+            x.row(4, 3);
+            x.row(4, 3);
+            x.lose(2);
             Check.refuses(x, "put(0, " + i + ")", () -> x.put(0, i, 1), Check.INDEX);
             Check.refuses(x, "get(0, " + i + ")", () -> x.get(0, i), Check.INDEX);
             Check.refuses(x, "put of a lost one", () -> x.put(2, i, 1), Check.NULL);
@@ -143,8 +151,10 @@ public final class RowsTest {
             Check.refuses(x, "put of none", () -> x.put(3, i, 1), PackDesk.UNKNOWN);
             Check.refuses(x, "get of none", () -> x.get(-1, i), PackDesk.UNKNOWN);
         }
-        Check.refuses(x, "put(1, 0)", () -> x.put(1, 0, 1), Check.INDEX);
-        Check.refuses(x, "get(1, 0)", () -> x.get(1, 0), Check.INDEX);
+        PackDesk x = new PackDesk();
+        x.row(4, 0);
+        Check.refuses(x, "put(0, 0)", () -> x.put(0, 0, 1), Check.INDEX);
+        Check.refuses(x, "get(0, 0)", () -> x.get(0, 0), Check.INDEX);
     }
 
     private static void dueRow(PackDesk x, String what, int r, long... wholes) {
@@ -168,19 +178,28 @@ public final class RowsTest {
         dueRow(x, "what was copied stays", 1, 2, 3, 9);
     }
 
-    private static void copyRefuses() {
+    /** The ROWS 0 and 1 are ints, 2 is of longs, 3 is of ints and LOST. */
+    private static PackDesk rowsToCopy() {
         PackDesk x = new PackDesk();
         Check.row(x, 4, 1, 2, 3);
         Check.row(x, 4, 1, 2, 3);
         Check.row(x, 5, 1, 2, 3);
         x.row(4, 3);
         x.lose(3);
+        return x;
+    }
+
+    private static void copyRefuses() {
         int max = Integer.MAX_VALUE, min = Integer.MIN_VALUE;
         int[][] outside = {
             {-1, 0, 1}, {0, -1, 1}, {0, 0, -1}, {0, 0, 4}, {1, 0, 3}, {0, 1, 3}, {4, 0, 0}, {0, 4, 0}, {3, 0, 1},
             {max, 0, max}, {0, max, 1}, {1, 0, max}, {0, 1, max}, {min, 0, 1}, {0, min, 1}, {0, 0, min}, {max, max, max}
         };
-        for (int[] o : outside) Check.refuses(x, "copy beyond", () -> x.copy(0, o[0], 1, o[1], o[2]), Check.INDEX);
+        for (int[] o : outside) {
+            PackDesk y = rowsToCopy();
+            Check.refuses(y, "copy beyond", () -> y.copy(0, o[0], 1, o[1], o[2]), Check.INDEX);
+        }
+        PackDesk x = rowsToCopy();
         Check.refuses(x, "copy of none", () -> x.copy(4, 0, 0, 0, 1), PackDesk.UNKNOWN);
         Check.refuses(x, "copy to none", () -> x.copy(0, 0, -1, 0, 1), PackDesk.UNKNOWN);
         Check.refuses(x, "copy to another kind", () -> x.copy(0, 0, 2, 0, 1), Check.CAST);

@@ -38,7 +38,14 @@ final class Script {
     record Step(String name, List<Long> arguments, Long due) {
         /** What the call answers; the machine must not throw. */
         long on(PackDesk x) {
-            Method method = FACE.get(name);
+            return answer(x, FACE.get(name));
+        }
+
+        long on(Model m) {
+            return answer(m, MODEL.get(name));
+        }
+
+        private long answer(Object x, Method method) {
             Object[] boxed = new Object[arguments.size()];
             for (int i = 0; i < boxed.length; i++) {
                 boolean wide = method.getParameterTypes()[i] == long.class;
@@ -55,7 +62,8 @@ final class Script {
 
         /** Whether the answer that is due leaves all as it was, but what is found. */
         boolean isRefused() {
-            return due != null && isRefusal(name, due);
+            if (due == null) return false;
+            return isRefusal(name, due) || due == PackDesk.NONE && (name.equals("find") || name.equals("drop"));
         }
 
         @Override
@@ -65,7 +73,8 @@ final class Script {
         }
     }
 
-    private static final Map<String, Method> FACE = face();
+    private static final Map<String, Method> FACE = publicOnes(PackDesk.class);
+    private static final Map<String, Method> MODEL = publicOnes(Model.class);
     private static final Map<String, Long> NAMED = named();
     private static final Pattern CALL = Pattern.compile("(?:(\\d+) x )?(\\w+)\\(([^)]*)\\)(?: = (\\S+))?(?: -> (\\S+))?");
     private static final Pattern POWER = Pattern.compile("(-?)2\\^(\\d+)([+-]\\d+)?");
@@ -193,12 +202,12 @@ final class Script {
         return named;
     }
 
-    private static Map<String, Method> face() {
-        Map<String, Method> face = new HashMap<>();
-        for (Method method : PackDesk.class.getDeclaredMethods()) {
-            if (Modifier.isPublic(method.getModifiers())) face.put(method.getName(), method);
+    private static Map<String, Method> publicOnes(Class<?> type) {
+        Map<String, Method> methods = new HashMap<>();
+        for (Method method : type.getDeclaredMethods()) {
+            if (Modifier.isPublic(method.getModifiers())) methods.put(method.getName(), method);
         }
-        return face;
+        return methods;
     }
 
     /** Makes the calls on a new object; what was refused is looked at by Twins, too. */

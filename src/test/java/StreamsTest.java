@@ -3,6 +3,7 @@ public final class StreamsTest {
     public static void main(String[] args) {
         streamsAreMade();
         addAppends();
+        addFills();
         endEnds();
         aboutTells();
         atTells();
@@ -33,13 +34,18 @@ public final class StreamsTest {
         for (int i = 0; i < given.length; i++) Check.due("add", x.add(s, given[i]), i + 1);
         Check.dueBytes("the bytes", Check.bytes(x, s), kept);
         Check.due("the sum", x.about(s, 3), Check.sum(kept));
-        for (int n = given.length + 1; n <= 400; n++) Check.due("add", x.add(s, 1), n);
+        Check.refuses(x, "add to none", () -> x.add(1, 1), PackDesk.UNKNOWN);
+        Check.refuses(x, "add to none", () -> x.add(-1, 1), PackDesk.UNKNOWN);
+    }
+
+    private static void addFills() {
+        PackDesk x = new PackDesk();
+        int s = x.stream();
+        for (int n = 1; n <= 400; n++) Check.due("add", x.add(s, n), n);
         Check.refuses(x, "add, byte 401", () -> x.add(s, 1), PackDesk.FULL);
         Check.due("bytes", x.about(s, 0), 400);
         x.end(s);
         Check.refuses(x, "add: STATE ahead of FULL", () -> x.add(s, 1), PackDesk.STATE);
-        Check.refuses(x, "add to none", () -> x.add(1, 1), PackDesk.UNKNOWN);
-        Check.refuses(x, "add to none", () -> x.add(-1, 1), PackDesk.UNKNOWN);
     }
 
     private static void endEnds() {
@@ -76,10 +82,12 @@ public final class StreamsTest {
         Check.due("at 0", x.at(s, 0), 5);
         Check.due("at 1", x.at(s, 1), 255);
         for (int i : new int[] {-1, 2, 400, Integer.MAX_VALUE, Integer.MIN_VALUE}) {
-            Check.refuses(x, "at " + i, () -> x.at(s, i), Check.INDEX);
-            Check.refuses(x, "harm " + i, () -> x.harm(s, i, 1), Check.INDEX);
-            Check.refuses(x, "at of none", () -> x.at(1, i), PackDesk.UNKNOWN);
-            Check.refuses(x, "harm of none", () -> x.harm(-1, i, 1), PackDesk.UNKNOWN);
+            PackDesk y = new PackDesk();
+            int t = Check.stream(y, 5, 255);
+            Check.refuses(y, "at " + i, () -> y.at(t, i), Check.INDEX);
+            Check.refuses(y, "harm " + i, () -> y.harm(t, i, 1), Check.INDEX);
+            Check.refuses(y, "at of none", () -> y.at(1, i), PackDesk.UNKNOWN);
+            Check.refuses(y, "harm of none", () -> y.harm(-1, i, 1), PackDesk.UNKNOWN);
         }
     }
 

@@ -17,6 +17,7 @@ final class TermsCases {
         deltas(doc);
         acts(doc);
         findings(doc);
+        allIsAsItWas(doc);
         calls(doc);
     }
 
@@ -335,10 +336,8 @@ final class TermsCases {
                 + " numbered as they come (no number twice), each as long as an ENTRY has it.";
         doc.says(quote, "30, not 31, and a 31st when one is gone", """
                 stream(); add(0, 0); end(0); 4 x house()
-                12 x keep(0, @, 0)
-                count(2) = 1
-                """ + thirtyBodies() + """
-                count(2) = 30; count(3) = 30; harm(0, 0, 255); keep(3, 0, 0) = FULL; keep(0, 0, 0) = FULL
+                """ + HousesCases.thirtyBodies() + """
+                count(3) = 30; harm(0, 0, 255); keep(3, 0, 0) = FULL; keep(0, 0, 0) = FULL
                 drop(0, 0) = 0; count(2) = 29; keep(3, 0, 0) = 30; count(2) = 30; count(3) = 31
                 """);
         doc.says(quote, "no two alike, in one HOUSE and in two", """
@@ -380,16 +379,6 @@ final class TermsCases {
         doc.says(quote, "PATHS by all their bits", """
                 house(); stream(); end(0); keep(0, 2^32, 0) = 0; find(0, 0) = NONE; find(0, 2^32) = 0; list(0, 0) = 1 -> 2^32
                 """);
-    }
-
-    /** Behind 12 ENTRIES of HOUSE 0 with one BODY of STREAM 0, {0}: 30 BODIES in the HOUSES 0 to 2. */
-    private static String thirtyBodies() {
-        StringBuilder calls = new StringBuilder();
-        for (int n = 1; n < 30; n++) {
-            calls.append("harm(0, 0, ").append((n - 1) ^ n).append("); keep(").append(n / 12).append(", ").append(n)
-                    .append(", 0) = ").append(n).append("\n");
-        }
-        return calls.toString();
     }
 
     private static void deltas(Sentences doc) {
@@ -505,17 +494,73 @@ final class TermsCases {
                 write(0, 0, 0) = 400; write(0, 0, 0) = FULL; write(0, 1, 0) = NULL; end(0)
                 write(0, 1, 0) = STATE; write(0, 1, 5) = OUTSIDE; write(0, 3, 5) = UNKNOWN; write(2, 1, 5) = UNKNOWN
                 """);
-        doc.says("With one all is as it was, but what finding(), findings() tell.", "one of each call, on a desk that has something of all", """
-                row(4, 3); numbers(0, 5, 0, 7); row(6, 2); numbers(1, 1.5f, GAPf); row(5, 1); lose(2)
-                stream(); write(0, 0, 1); seek(0, 3); stream(); bytes(1, 1, 2, 3, 4, 5); end(1); stream(); bytes(2, 1, 2, 3, 4)
-                house(); keep(0, 4, 1) = 0; keep(0, 2, 1) = 0; house(); delta(1, 2) = 0; get(0, 2) -> 7
-                row(9, 1) = OUTSIDE; lose(2) = NULL; kind(3) = UNKNOWN; length(2) = NULL; put(0, 3, 9) = INDEX; get(0, 3) = INDEX
-                copy(0, 0, 1, 0, 1) = CAST; copy(0, 0, 0, 1, 3) = INDEX; compare(0, 0, 3) = INDEX; shape(0, 0, 1) = STATE
-                rest(0, 0, 1) = ZERO; most(2, 0) = NULL; write(1, 0, 0) = STATE; cost(0, 5) = OUTSIDE; best(2) = NULL; add(1, 1) = STATE
-                end(1) = STATE; about(0, 4) = OUTSIDE; at(0, 10) = INDEX; harm(0, 10, 1) = INDEX; seek(0, 11) = INDEX; read(0) = SHORT
-                pieces(3) = UNKNOWN; keep(0, 5, 2) = STATE; find(0, -1) = OUTSIDE; drop(0, -1) = OUTSIDE; list(0, 2) = INDEX
-                take(0, 5) = STATE; delta(0, 3) = UNKNOWN; act(0, 9, 0) = INDEX; apply(0, 2) = MISFIT; findings(0) = OUTSIDE; count(6) = OUTSIDE
-                seen() = 7
+    }
+
+    /**
+     * ROWS: 0 ints 5 0 7, 1 floats 1.5 GAP, 2 LOST. STREAMS: 0 OPEN, a PIECE of ROW 0 and its PLACE at 3, 1 ENDED, 2 OPEN,
+     * 3 ENDED. HOUSES: 0 with the PATHS 2 and 4, 1 with none. DELTA 0 is of STREAM 1 to STREAM 2. SEEN is 7, the latest FINDING is 6.
+     */
+    private static final String SOMETHING_OF_ALL = """
+            row(4, 3); numbers(0, 5, 0, 7); row(6, 2); numbers(1, 1.5f, GAPf); row(4, 1); lose(2)
+            stream(); write(0, 0, 1) = 10; stream(); bytes(1, 1, 2, 3, 4, 5); end(1); stream(); bytes(2, 9, 1, 2, 3, 4); stream(); end(3)
+            house(); keep(0, 4, 1) = 0; keep(0, 2, 1) = 0; house(); delta(1, 2) = 0; get(0, 2) -> 7; read(3) = ENDS; seek(0, 3)
+            """;
+
+    /**
+     * 60 ROWS: 0 of ints, 1 of longs, 2 LOST. 24 STREAMS: 0 ENDED, 1 with 400 bytes, 2 with a PIECE, 3 ENDED and with no bytes. 6 HOUSES
+     * with 30 BODIES: 0 and 1 have 12 ENTRIES, 2 has 6. 16 DELTAS, of STREAM 1 to itself. SEEN is 3.
+     */
+    private static final String ALL_FULL = """
+            row(4, 1); put(0, 0, 3); row(5, 1); row(4, 1); lose(2); 57 x row(0, 0)
+            24 x stream()
+            6 x house()
+            56 x write(1, 3, 0)
+            8 x add(1, 5)
+            write(2, 0, 0); seek(1, 7); add(0, 0); end(0); end(3)
+            16 x delta(1, 1)
+            """ + HousesCases.thirtyBodies() + "get(0, 0) -> 3\n";
+
+    /** Each refusal and each FINDING of each call; Twins looks whether all is as it was. */
+    private static void allIsAsItWas(Sentences doc) {
+        String quote = "With one all is as it was, but what finding(), findings() tell.";
+        doc.says(quote, "the calls of ROWS", SOMETHING_OF_ALL + """
+                row(8, 1) = OUTSIDE; row(0, 25) = OUTSIDE; row(0, -1) = SIZE; lose(3) = UNKNOWN; lose(2) = NULL; kind(3) = UNKNOWN
+                length(3) = UNKNOWN; length(2) = NULL; put(3, 0, 1) = UNKNOWN; put(2, 0, 1) = NULL; put(0, 3, 9) = INDEX
+                get(3, 0) = UNKNOWN; get(2, 0) = NULL; get(0, 3) = INDEX
+                copy(3, 0, 0, 0, 1) = UNKNOWN; copy(0, 0, 3, 0, 1) = UNKNOWN; copy(0, 0, 1, 0, 1) = CAST; copy(2, 0, 0, 0, 1) = NULL
+                copy(0, 0, 2, 0, 1) = NULL; copy(0, 0, 0, 1, 3) = INDEX; copy(0, 1, 0, 0, 3) = INDEX; copy(0, 0, 0, 1, -1) = INDEX
+                """);
+        doc.says(quote, "the calls of NUMBERS", SOMETHING_OF_ALL + """
+                compare(3, 0, 0) = UNKNOWN; compare(2, 0, 0) = NULL; compare(0, 0, 3) = INDEX; compare(0, 3, 0) = INDEX
+                shape(3, 0, 0) = UNKNOWN; shape(0, 0, 6) = OUTSIDE; shape(0, 0, 1) = STATE; shape(2, 0, 0) = NULL; shape(1, 2, 1) = INDEX
+                rest(3, 0, 0) = UNKNOWN; rest(2, 0, 0) = NULL; rest(0, 3, 0) = INDEX; rest(0, 0, 1) = ZERO; rest(1, 0, 1) = ZERO; rest(1, 1, 0) = ZERO
+                most(3, 0) = UNKNOWN; most(0, 3) = OUTSIDE; most(2, 0) = NULL; seen() = 7
+                """);
+        doc.says(quote, "the calls of STREAMS", SOMETHING_OF_ALL + """
+                write(4, 0, 0) = UNKNOWN; write(0, 3, 0) = UNKNOWN; write(0, 0, 5) = OUTSIDE; write(1, 0, 0) = STATE; write(0, 2, 0) = NULL
+                cost(3, 0) = UNKNOWN; cost(0, 5) = OUTSIDE; cost(2, 0) = NULL; best(3) = UNKNOWN; best(2) = NULL
+                add(4, 1) = UNKNOWN; add(1, 1) = STATE; end(4) = UNKNOWN; end(1) = STATE; about(4, 0) = UNKNOWN; about(0, 4) = OUTSIDE
+                at(4, 0) = UNKNOWN; at(0, 10) = INDEX; harm(4, 0, 1) = UNKNOWN; harm(0, 10, 1) = INDEX; seek(4, 0) = UNKNOWN; seek(0, 11) = INDEX
+                """);
+        doc.says(quote, "read() and pieces()", SOMETHING_OF_ALL + """
+                read(4) = UNKNOWN; read(3) = ENDS; read(0) = SHORT; read(2) = SHORT; pieces(4) = UNKNOWN
+                seek(0, 0) = 3; harm(0, 0, 64); read(0) = HARMED; harm(0, 0, 64); harm(0, 9, 1); read(0) = HARMED; harm(0, 9, 1); bytes(0, 1)
+                piece(2, 160, 4, 1, 128, 0); seek(2, 5); read(2) = HARMED; read(0) = 3; are(3, 5, 0, 7)
+                """);
+        doc.says(quote, "the calls of HOUSES", SOMETHING_OF_ALL + """
+                keep(2, 0, 1) = UNKNOWN; keep(0, 0, 4) = UNKNOWN; keep(0, -1, 1) = OUTSIDE; keep(0, 5, 2) = STATE; keep(0, 4, 2) = STATE
+                find(2, 0) = UNKNOWN; find(0, -1) = OUTSIDE; find(0, 5) = NONE; find(1, 4) = NONE
+                drop(2, 0) = UNKNOWN; drop(0, -1) = OUTSIDE; drop(0, 5) = NONE; drop(1, 4) = NONE
+                list(2, 0) = UNKNOWN; list(0, 2) = INDEX; list(0, -1) = INDEX; take(2, 0) = UNKNOWN; take(0, -1) = OUTSIDE; take(0, 5) = STATE
+                """);
+        doc.says(quote, "the calls of DELTAS, and what is told", SOMETHING_OF_ALL + """
+                delta(4, 0) = UNKNOWN; delta(0, 4) = UNKNOWN; act(1, 0, 0) = UNKNOWN; act(0, 0, 3) = OUTSIDE; act(0, 9, 0) = INDEX
+                apply(1, 1) = UNKNOWN; apply(0, 4) = UNKNOWN; apply(0, 2) = MISFIT; apply(0, 3) = MISFIT; findings(0) = OUTSIDE; findings(10) = OUTSIDE
+                count(6) = OUTSIDE; count(-1) = OUTSIDE; apply(0, 1) = 4; has(4, 9, 1, 2, 3, 4)
+                """);
+        doc.says(quote, "what is FULL", ALL_FULL + """
+                row(0, 0) = FULL; stream() = FULL; write(1, 0, 0) = FULL; add(1, 1) = FULL; read(2) = FULL; house() = FULL; keep(0, 40, 0) = FULL
+                take(0, 0) = FULL; delta(0, 0) = FULL; apply(0, 1) = FULL; harm(0, 0, 128); keep(3, 0, 0) = FULL; keep(0, 0, 0) = FULL
                 """);
     }
 
