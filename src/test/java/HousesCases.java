@@ -42,18 +42,21 @@ final class HousesCases {
         String quote = "What an ENDED STREAM has becomes the ENTRY of a PATH, in place of the one before: the number of the BODY"
                 + " (the one that is alike, or a new one).";
         doc.says(quote, "no bytes, one byte", """
-                house(); stream(); end(0); stream(); add(1, 0); end(1); keep(0, 0, 0) = 0; keep(0, 1, 1) = 1; take(0, 0) = 2; about(2, 0) = 0; take(0, 1) = 3; has(3, 0)
+                house(); stream(); end(0); stream(); add(1, 0); end(1); keep(0, 0, 0) = 0; keep(0, 1, 1) = 1; take(0, 0) = 2
+                about(2, 0) = 0; take(0, 1) = 3; has(3, 0)
                 """);
         doc.says(quote, "400 bytes", """
                 house(); row(0, 0); stream(); 57 x write(0, 0, 0)
                 add(0, 9) = 400; end(0); keep(0, 0, 0) = 0; take(0, 0) = 1; about(1, 0) = 400; at(1, 399) = 9; about(1, 2) = 1; keep(0, 1, 1) = 0
                 """);
         doc.says(quote, "in place of the one before, which goes, or stays with another", """
-                house(); stream(); add(0, 1); end(0); stream(); add(1, 2); end(1); keep(0, 5, 0) = 0; keep(0, 5, 1) = 1; uses(0) = 0; uses(1) = 1; count(2) = 1
+                house(); stream(); add(0, 1); end(0); stream(); add(1, 2); end(1); keep(0, 5, 0) = 0; keep(0, 5, 1) = 1; uses(0) = 0
+                uses(1) = 1; count(2) = 1
                 keep(0, 6, 1) = 1; keep(0, 5, 0) = 2; uses(1) = 1; uses(2) = 1; count(2) = 2; list(0, 1) = 2 -> 6; find(0, 5) = 2; find(0, 6) = 1
                 """);
         doc.says(quote, "in place of itself", """
-                house(); stream(); add(0, 1); end(0); keep(0, 5, 0) = 0; keep(0, 5, 0) = 0; uses(0) = 1; count(2) = 1; count(3) = 1; list(0, 0) = 1 -> 5
+                house(); stream(); add(0, 1); end(0); keep(0, 5, 0) = 0; keep(0, 5, 0) = 0; uses(0) = 1; count(2) = 1; count(3) = 1
+                list(0, 0) = 1 -> 5
                 """);
         doc.says(quote, "alike is by bytes, whatever the PLACE; more bytes, fewer bytes are not", """
                 house(); 4 x stream()
@@ -78,7 +81,8 @@ final class HousesCases {
                 """);
         doc.says(quote, "no HOUSE, no STREAM, ahead of OUTSIDE and STATE", """
                 house(); stream(); stream(); end(1)
-                keep(1, 0, 1) = UNKNOWN; keep(-1, 0, 1) = UNKNOWN; keep(0, 0, 2) = UNKNOWN; keep(0, 0, -1) = UNKNOWN; keep(MAX, 0, 1) = UNKNOWN; keep(0, 0, MIN) = UNKNOWN
+                keep(1, 0, 1) = UNKNOWN; keep(-1, 0, 1) = UNKNOWN; keep(0, 0, 2) = UNKNOWN; keep(0, 0, -1) = UNKNOWN
+                keep(MAX, 0, 1) = UNKNOWN; keep(0, 0, MIN) = UNKNOWN
                 keep(1, -1, 1) = UNKNOWN; keep(0, -1, 2) = UNKNOWN; keep(1, 0, 0) = UNKNOWN; keep(0, -1, 0) = OUTSIDE
                 """);
     }
@@ -92,7 +96,8 @@ final class HousesCases {
                 """);
         doc.says(quote, "12 ENTRIES: behind UNKNOWN, OUTSIDE, STATE", """
                 house(); stream(); end(0); stream(); 12 x keep(0, @, 0)
-                keep(0, 12, 1) = STATE; keep(0, -12, 0) = OUTSIDE; keep(0, 12, 2) = UNKNOWN; keep(1, 12, 0) = UNKNOWN; keep(0, 12, 0) = FULL; keep(0, 0, 1) = STATE
+                keep(0, 12, 1) = STATE; keep(0, -12, 0) = OUTSIDE; keep(0, 12, 2) = UNKNOWN; keep(1, 12, 0) = UNKNOWN; keep(0, 12, 0) = FULL
+                keep(0, 0, 1) = STATE
                 """);
         doc.says(quote, "the 31st BODY: as a new ENTRY, and in place of one that had the last of its own", THIRTY + """
                 harm(0, 0, 128); keep(3, 0, 0) = FULL; keep(0, 0, 0) = FULL; keep(2, 29, 0) = FULL; count(2) = 30; count(3) = 30; uses(0) = 1
@@ -107,7 +112,8 @@ final class HousesCases {
                 keep(0, 12, 1) = FULL; keep(0, 12, 0) = FULL; keep(0, 11, 1) = FULL; keep(0, 11, 0) = 29; keep(3, 0, 1) = 30
                 """);
         doc.says(quote, "29 BODIES: there is room for one", THIRTY + """
-                drop(1, 12) = 12; harm(0, 0, 128); keep(0, 0, 0) = 30; count(2) = 29; uses(0) = 0; harm(0, 0, 64); keep(5, LMAX, 0) = 31; count(2) = 30
+                drop(1, 12) = 12; harm(0, 0, 128); keep(0, 0, 0) = 30; count(2) = 29; uses(0) = 0; harm(0, 0, 64); keep(5, LMAX, 0) = 31
+                count(2) = 30
                 harm(0, 0, 32); keep(5, 0, 0) = FULL; count(3) = 32
                 """);
     }
@@ -132,12 +138,14 @@ final class HousesCases {
         doc.ofPromise(29);
         String quote = "An ENTRY goes: the number of the BODY that it had (which goes, too, if no other has it); NONE.";
         doc.says(quote, "the only one, then none", """
-                house(); stream(); end(0); drop(0, 0) = NONE; keep(0, 0, 0) = 0; drop(0, 1) = NONE; drop(0, 0) = 0; drop(0, 0) = NONE; list(0, 0) = INDEX
+                house(); stream(); end(0); drop(0, 0) = NONE; keep(0, 0, 0) = 0; drop(0, 1) = NONE; drop(0, 0) = 0; drop(0, 0) = NONE
+                list(0, 0) = INDEX
                 uses(0) = 0; count(2) = 0; count(3) = 1
                 """);
         doc.says(quote, "the first, the middle, the last of 12", """
                 house(); stream(); end(0); 12 x keep(0, @, 0)
-                drop(0, 0) = 0; drop(0, 6) = 0; drop(0, 11) = 0; list(0, 0) = 9 -> 1; list(0, 4) = 9 -> 5; list(0, 5) = 9 -> 7; list(0, 8) = 9 -> 10; list(0, 9) = INDEX
+                drop(0, 0) = 0; drop(0, 6) = 0; drop(0, 11) = 0; list(0, 0) = 9 -> 1; list(0, 4) = 9 -> 5; list(0, 5) = 9 -> 7
+                list(0, 8) = 9 -> 10; list(0, 9) = INDEX
                 uses(0) = 9; find(0, 6) = NONE; find(0, 7) = 0
                 """);
         doc.says(quote, "the others keep their own BODIES", """
@@ -145,11 +153,13 @@ final class HousesCases {
                 bytes(0, 1); bytes(1, 2); bytes(2, 3); bytes(3, 4)
                 4 x end(@)
                 4 x keep(0, @, @) = @
-                drop(0, 0) = 0; find(0, 1) = 1; find(0, 2) = 2; find(0, 3) = 3; drop(0, 2) = 2; find(0, 1) = 1; find(0, 3) = 3; take(0, 3) = 4; has(4, 4)
+                drop(0, 0) = 0; find(0, 1) = 1; find(0, 2) = 2; find(0, 3) = 3; drop(0, 2) = 2; find(0, 1) = 1; find(0, 3) = 3
+                take(0, 3) = 4; has(4, 4)
                 drop(0, 3) = 3; find(0, 1) = 1; uses(1) = 1; keep(0, 0, 0) = 4; find(0, 0) = 4; find(0, 1) = 1; count(2) = 2
                 """);
         doc.says(quote, "the BODY stays with another ENTRY, of this HOUSE or of one more", """
-                house(); house(); stream(); add(0, 1); end(0); keep(0, 0, 0); keep(0, 1, 0); keep(1, 0, 0); drop(0, 0) = 0; drop(0, 1) = 0; uses(0) = 1; count(2) = 1
+                house(); house(); stream(); add(0, 1); end(0); keep(0, 0, 0); keep(0, 1, 0); keep(1, 0, 0); drop(0, 0) = 0; drop(0, 1) = 0
+                uses(0) = 1; count(2) = 1
                 take(1, 0) = 1; has(1, 1); drop(0, 0) = NONE; drop(1, 0) = 0; count(2) = 0
                 """);
         doc.says("UNKNOWN; OUTSIDE.", "PATHS below 0; the order", """
@@ -164,15 +174,19 @@ final class HousesCases {
         doc.says(quote, "12, kept the last first", """
                 house(); stream(); end(0); keep(0, LMAX, 0); keep(0, 2^40, 0); keep(0, 2^32, 0); keep(0, 2^31, 0); keep(0, 9, 0); keep(0, 8, 0)
                 keep(0, 7, 0); keep(0, 6, 0); keep(0, 5, 0); keep(0, 4, 0); keep(0, 1, 0); keep(0, 0, 0)
-                list(0, 0) = 12 -> 0; list(0, 1) = 12 -> 1; list(0, 2) = 12 -> 4; list(0, 7) = 12 -> 9; list(0, 8) = 12 -> 2^31; list(0, 9) = 12 -> 2^32
+                list(0, 0) = 12 -> 0; list(0, 1) = 12 -> 1; list(0, 2) = 12 -> 4; list(0, 7) = 12 -> 9; list(0, 8) = 12 -> 2^31
+                list(0, 9) = 12 -> 2^32
                 list(0, 10) = 12 -> 2^40; list(0, 11) = 12 -> LMAX; list(0, 12) = INDEX
                 """);
         doc.says(quote, "one, and two of two HOUSES", """
-                house(); house(); stream(); end(0); keep(1, 5, 0); list(1, 0) = 1 -> 5; keep(0, 9, 0); keep(0, 3, 0); list(0, 0) = 2 -> 3; list(0, 1) = 2 -> 9; list(1, 0) = 1 -> 5
+                house(); house(); stream(); end(0); keep(1, 5, 0); list(1, 0) = 1 -> 5; keep(0, 9, 0); keep(0, 3, 0); list(0, 0) = 2 -> 3
+                list(0, 1) = 2 -> 9; list(1, 0) = 1 -> 5
                 """);
         doc.says("UNKNOWN; INDEX.", "just outside, an empty HOUSE; the order; SEEN stays", """
-                house(); house(); stream(); end(0); keep(0, 7, 0); list(0, 0) = 1 -> 7; list(0, 1) = INDEX; list(0, -1) = INDEX; list(0, MIN) = INDEX; list(0, MAX) = INDEX
-                list(1, 0) = INDEX; list(1, -1) = INDEX; list(2, 0) = UNKNOWN; list(2, -1) = UNKNOWN; list(-1, 9) = UNKNOWN; list(MAX, 0) = UNKNOWN; list(MIN, 0) = UNKNOWN
+                house(); house(); stream(); end(0); keep(0, 7, 0); list(0, 0) = 1 -> 7; list(0, 1) = INDEX; list(0, -1) = INDEX
+                list(0, MIN) = INDEX; list(0, MAX) = INDEX
+                list(1, 0) = INDEX; list(1, -1) = INDEX; list(2, 0) = UNKNOWN; list(2, -1) = UNKNOWN; list(-1, 9) = UNKNOWN
+                list(MAX, 0) = UNKNOWN; list(MIN, 0) = UNKNOWN
                 drop(0, 7); list(0, 0) = INDEX; seen() = 7
                 """);
     }
@@ -182,11 +196,13 @@ final class HousesCases {
         String quote = "A new STREAM, ENDED, with the bytes of the BODY of a PATH: its number.";
         doc.says(quote, "of no bytes, of some; PLACE is 0", """
                 house(); stream(); end(0); stream(); bytes(1, 0, 128, 255); seek(1, 2); end(1); keep(0, 0, 0); keep(0, LMAX, 1)
-                take(0, 0) = 2; about(2, 0) = 0; about(2, 1) = 0; about(2, 2) = 1; take(0, LMAX) = 3; has(3, 0, 128, 255); about(3, 1) = 0; about(3, 2) = 1
+                take(0, 0) = 2; about(2, 0) = 0; about(2, 1) = 0; about(2, 2) = 1; take(0, LMAX) = 3; has(3, 0, 128, 255); about(3, 1) = 0
+                about(3, 2) = 1
                 add(3, 1) = STATE; end(3) = STATE; uses(1) = 1
                 """);
         doc.says(quote, "the bytes that it had when it was kept", """
-                house(); stream(); bytes(0, 1, 2); end(0); keep(0, 0, 0) = 0; harm(0, 0, 255); take(0, 0) = 1; has(1, 1, 2); harm(1, 1, 255); take(0, 0) = 2; has(2, 1, 2)
+                house(); stream(); bytes(0, 1, 2); end(0); keep(0, 0, 0) = 0; harm(0, 0, 255); take(0, 0) = 1; has(1, 1, 2); harm(1, 1, 255)
+                take(0, 0) = 2; has(2, 1, 2)
                 """);
         doc.says(quote, "400 bytes", """
                 house(); row(0, 0); stream(); 57 x write(0, 0, 0)
@@ -198,8 +214,10 @@ final class HousesCases {
                 take(0, 0) = FULL; take(0, 1) = STATE; take(0, -1) = OUTSIDE; take(1, 0) = UNKNOWN; count(1) = 24
                 """);
         doc.says(quote, "the order; no ENTRY, and one that went", """
-                house(); house(); stream(); end(0); take(0, 0) = STATE; keep(0, 0, 0); take(1, 0) = STATE; take(0, 1) = STATE; drop(0, 0); take(0, 0) = STATE
-                take(0, -1) = OUTSIDE; take(0, LMIN) = OUTSIDE; take(2, 0) = UNKNOWN; take(2, -1) = UNKNOWN; take(-1, -1) = UNKNOWN; take(MAX, 0) = UNKNOWN; take(MIN, 0) = UNKNOWN
+                house(); house(); stream(); end(0); take(0, 0) = STATE; keep(0, 0, 0); take(1, 0) = STATE; take(0, 1) = STATE; drop(0, 0)
+                take(0, 0) = STATE
+                take(0, -1) = OUTSIDE; take(0, LMIN) = OUTSIDE; take(2, 0) = UNKNOWN; take(2, -1) = UNKNOWN; take(-1, -1) = UNKNOWN
+                take(MAX, 0) = UNKNOWN; take(MIN, 0) = UNKNOWN
                 """);
     }
 
@@ -217,7 +235,8 @@ final class HousesCases {
                 uses(0) = 72; drop(5, 11); uses(0) = 71
                 """);
         doc.says(quote, "gone, never was, below 0", """
-                uses(0) = 0; uses(-1) = 0; uses(MIN) = 0; uses(MAX) = 0; house(); stream(); end(0); keep(0, 0, 0) = 0; uses(0) = 1; uses(1) = 0; uses(-1) = 0
+                uses(0) = 0; uses(-1) = 0; uses(MIN) = 0; uses(MAX) = 0; house(); stream(); end(0); keep(0, 0, 0) = 0; uses(0) = 1
+                uses(1) = 0; uses(-1) = 0
                 drop(0, 0) = 0; uses(0) = 0; keep(0, 0, 0) = 1; uses(0) = 0; uses(1) = 1; finding() = 0
                 """);
         doc.says(quote, "30 at a time, and the 31st in the room of another", THIRTY + """

@@ -123,15 +123,21 @@ final class NumbersCases {
         for (int kind = 6; kind <= 7; kind++) {
             doc.says(quote, "between -1 and 1, KIND " + kind, ofBoth("""
                     row(K, 6); numbers(0, 0.5t, -0.5t, LEASTt, -LEASTt, 0.0t, -0.0t)
-                    shape(0, 0, 1) -> 0; shape(0, 1, 1) -> -1.0t; shape(0, 2, 1) -> 0; shape(0, 3, 1) -> -1.0t; shape(0, 4, 1) -> 0; shape(0, 5, 1) -> -0.0t
-                    shape(0, 0, 2) -> 1.0t; shape(0, 1, 2) -> -0.0t; shape(0, 2, 2) -> 1.0t; shape(0, 3, 2) -> -0.0t; shape(0, 4, 2) -> 0; shape(0, 5, 2) -> -0.0t
-                    shape(0, 0, 3) -> 0; shape(0, 1, 3) -> -0.0t; shape(0, 2, 3) -> 0; shape(0, 3, 3) -> -0.0t; shape(0, 4, 3) -> 0; shape(0, 5, 3) -> -0.0t
+                    shape(0, 0, 1) -> 0; shape(0, 1, 1) -> -1.0t; shape(0, 2, 1) -> 0; shape(0, 3, 1) -> -1.0t; shape(0, 4, 1) -> 0
+                    shape(0, 5, 1) -> -0.0t
+                    shape(0, 0, 2) -> 1.0t; shape(0, 1, 2) -> -0.0t; shape(0, 2, 2) -> 1.0t; shape(0, 3, 2) -> -0.0t; shape(0, 4, 2) -> 0
+                    shape(0, 5, 2) -> -0.0t
+                    shape(0, 0, 3) -> 0; shape(0, 1, 3) -> -0.0t; shape(0, 2, 3) -> 0; shape(0, 3, 3) -> -0.0t; shape(0, 4, 3) -> 0
+                    shape(0, 5, 3) -> -0.0t
                     """, kind));
             doc.says(quote, "whole ones and halves, KIND " + kind, ofBoth("""
                     row(K, 7); numbers(0, 1.0t, -1.0t, 1.5t, -1.5t, 2.5t, -2.5t, 3.5t)
-                    shape(0, 0, 1) -> 1.0t; shape(0, 1, 1) -> -1.0t; shape(0, 2, 1) -> 1.0t; shape(0, 3, 1) -> -2.0t; shape(0, 4, 1) -> 2.0t; shape(0, 5, 1) -> -3.0t
-                    shape(0, 0, 2) -> 1.0t; shape(0, 1, 2) -> -1.0t; shape(0, 2, 2) -> 2.0t; shape(0, 3, 2) -> -1.0t; shape(0, 4, 2) -> 3.0t; shape(0, 5, 2) -> -2.0t
-                    shape(0, 0, 3) -> 1.0t; shape(0, 1, 3) -> -1.0t; shape(0, 2, 3) -> 2.0t; shape(0, 3, 3) -> -2.0t; shape(0, 4, 3) -> 2.0t; shape(0, 5, 3) -> -2.0t
+                    shape(0, 0, 1) -> 1.0t; shape(0, 1, 1) -> -1.0t; shape(0, 2, 1) -> 1.0t; shape(0, 3, 1) -> -2.0t; shape(0, 4, 1) -> 2.0t
+                    shape(0, 5, 1) -> -3.0t
+                    shape(0, 0, 2) -> 1.0t; shape(0, 1, 2) -> -1.0t; shape(0, 2, 2) -> 2.0t; shape(0, 3, 2) -> -1.0t; shape(0, 4, 2) -> 3.0t
+                    shape(0, 5, 2) -> -2.0t
+                    shape(0, 0, 3) -> 1.0t; shape(0, 1, 3) -> -1.0t; shape(0, 2, 3) -> 2.0t; shape(0, 3, 3) -> -2.0t; shape(0, 4, 3) -> 2.0t
+                    shape(0, 5, 3) -> -2.0t
                     shape(0, 6, 3) -> 4.0t; shape(0, 6, 1) -> 3.0t; shape(0, 6, 2) -> 4.0t
                     """, kind));
             doc.says(quote, "the endless and the greatest ones are whole, KIND " + kind, ofBoth("""
@@ -143,7 +149,8 @@ final class NumbersCases {
         }
         doc.says(quote, "the floats beside a half and beside 1", """
                 row(6, 6); numbers(0, 0x3EFFFFFF, 0x3F000001, 0x3F7FFFFF, 0x3F800001, 0xBF000001, 0xBF7FFFFF)
-                shape(0, 0, 3) -> 0; shape(0, 1, 3) -> 1.0f; shape(0, 2, 3) -> 1.0f; shape(0, 3, 3) -> 1.0f; shape(0, 4, 3) -> -1.0f; shape(0, 5, 3) -> -1.0f
+                shape(0, 0, 3) -> 0; shape(0, 1, 3) -> 1.0f; shape(0, 2, 3) -> 1.0f; shape(0, 3, 3) -> 1.0f; shape(0, 4, 3) -> -1.0f
+                shape(0, 5, 3) -> -1.0f
                 shape(0, 2, 1) -> 0; shape(0, 3, 1) -> 1.0f; shape(0, 3, 2) -> 2.0f; shape(0, 5, 1) -> -1.0f; shape(0, 5, 2) -> -0.0f
                 """);
         doc.says(quote, "the floats that have the last half, and that have none", """
@@ -192,7 +199,8 @@ final class NumbersCases {
                 """);
         doc.says(quote, "NULL ahead of INDEX, UNKNOWN ahead of all", """
                 row(4, 2); row(6, 2); lose(0); lose(1); shape(0, 0, 0) = NULL; shape(0, 2, 5) = NULL; shape(1, 0, 1) = NULL; shape(1, -1, 4) = NULL
-                shape(2, 0, 0) = UNKNOWN; shape(2, 0, 6) = UNKNOWN; shape(-1, -1, 1) = UNKNOWN; shape(MAX, 0, -1) = UNKNOWN; shape(MIN, 0, 0) = UNKNOWN
+                shape(2, 0, 0) = UNKNOWN; shape(2, 0, 6) = UNKNOWN; shape(-1, -1, 1) = UNKNOWN; shape(MAX, 0, -1) = UNKNOWN
+                shape(MIN, 0, 0) = UNKNOWN
                 """);
     }
 
@@ -219,7 +227,8 @@ final class NumbersCases {
             doc.says(quote, "by an endless one, by the least one, by itself, KIND " + kind, ofBoth("""
                     row(K, 6); numbers(0, ENDLESSt, -ENDLESSt, LEASTt, MOSTt, -3.0t, 3.0t)
                     rest(0, 4, 0) -> -3.0t; rest(0, 4, 1) -> -3.0t; rest(0, 3, 1) -> MOSTt; rest(0, 2, 0) -> LEASTt
-                    rest(0, 3, 2) -> 0; rest(0, 4, 2) -> -0.0t; rest(0, 2, 3) -> LEASTt; rest(0, 2, 2) -> 0; rest(0, 5, 5) -> 0; rest(0, 4, 5) -> -0.0t
+                    rest(0, 3, 2) -> 0; rest(0, 4, 2) -> -0.0t; rest(0, 2, 3) -> LEASTt; rest(0, 2, 2) -> 0; rest(0, 5, 5) -> 0
+                    rest(0, 4, 5) -> -0.0t
                     """, kind));
         }
         doc.says(quote, "where a rest is among the least ones", """
@@ -230,7 +239,8 @@ final class NumbersCases {
                 """);
         doc.says(quote, "where a rest has its last bit alone, and where one bit is left above the least ones", """
                 row(6, 4); numbers(0, 0x3F800001, 1.0f, 0x01000001, 0x01000000); rest(0, 0, 1) -> 0x34000000; rest(0, 2, 3) -> 2
-                row(7, 4); numbers(1, 0x3FF0000000000001, 1.0d, 0x0020000000000001, 0x0020000000000000); rest(1, 0, 1) -> 0x3CB0000000000000; rest(1, 2, 3) -> 2
+                row(7, 4); numbers(1, 0x3FF0000000000001, 1.0d, 0x0020000000000001, 0x0020000000000000); rest(1, 0, 1) -> 0x3CB0000000000000
+                rest(1, 2, 3) -> 2
                 """);
         doc.says(quote, "the greatest by a small one", """
                 row(6, 2); numbers(0, MOSTf, 3.0f); rest(0, 0, 1) -> 0; numbers(0, MOSTf, 11.0f); rest(0, 0, 1) -> 9.0f
@@ -278,12 +288,15 @@ final class NumbersCases {
                 numbers(1, -7, 9, 5); most(1, 0) -> 9; most(1, 1) -> -7; numbers(1, 5, -7, 9); most(1, 0) -> 9; most(1, 1) -> -7
                 """);
         doc.says(quote, "all above 0, all below 0, the edges of the KIND", """
-                row(5, 2); numbers(0, 3, 4); most(0, 1) -> 3; numbers(0, -3, -4); most(0, 0) -> -3; numbers(0, LMIN, LMAX); most(0, 0) -> LMAX; most(0, 1) -> LMIN
+                row(5, 2); numbers(0, 3, 4); most(0, 1) -> 3; numbers(0, -3, -4); most(0, 0) -> -3; numbers(0, LMIN, LMAX)
+                most(0, 0) -> LMAX; most(0, 1) -> LMIN
                 row(2, 2); numbers(1, 65535, 1); most(1, 0) -> 65535; most(1, 1) -> 1; row(0, 2); numbers(2, 0, 1); most(2, 0) -> 1; most(2, 1) -> 0
                 """);
         doc.says(quote, "-0.0 and 0.0, in either order", """
-                row(6, 2); numbers(0, 0.0f, -0.0f); most(0, 0) -> 0; most(0, 1) -> -0.0f; numbers(0, -0.0f, 0.0f); most(0, 0) -> 0; most(0, 1) -> -0.0f
-                row(7, 2); numbers(1, 0.0d, -0.0d); most(1, 0) -> 0; most(1, 1) -> -0.0d; numbers(1, -0.0d, 0.0d); most(1, 0) -> 0; most(1, 1) -> -0.0d
+                row(6, 2); numbers(0, 0.0f, -0.0f); most(0, 0) -> 0; most(0, 1) -> -0.0f; numbers(0, -0.0f, 0.0f); most(0, 0) -> 0
+                most(0, 1) -> -0.0f
+                row(7, 2); numbers(1, 0.0d, -0.0d); most(1, 0) -> 0; most(1, 1) -> -0.0d; numbers(1, -0.0d, 0.0d); most(1, 0) -> 0
+                most(1, 1) -> -0.0d
                 row(7, 2); numbers(2, -0.0d, -LEASTd); most(2, 0) -> -0.0d; most(2, 1) -> -LEASTd
                 """);
         doc.says(quote, "GAPS ahead, between, behind; endless ones are none", """
@@ -308,7 +321,8 @@ final class NumbersCases {
                 row(6, 2); numbers(8, GAPf, GAPf); most(8, 0) = ZERO; most(8, 1) = ZERO; most(8, 2) -> 2; put(8, 1, 0); most(8, 0) -> 0
                 """);
         doc.says(quote, "OUTSIDE ahead of NULL and ZERO, NULL ahead of ZERO, UNKNOWN ahead of all", """
-                row(4, 0); most(0, 3) = OUTSIDE; lose(0); most(0, 3) = OUTSIDE; most(0, -1) = OUTSIDE; most(0, 0) = NULL; most(0, 1) = NULL; most(0, 2) = NULL
+                row(4, 0); most(0, 3) = OUTSIDE; lose(0); most(0, 3) = OUTSIDE; most(0, -1) = OUTSIDE; most(0, 0) = NULL; most(0, 1) = NULL
+                most(0, 2) = NULL
                 most(1, 0) = UNKNOWN; most(1, 3) = UNKNOWN; most(-1, -1) = UNKNOWN; most(MAX, 0) = UNKNOWN; most(MIN, 9) = UNKNOWN
                 """);
     }

@@ -37,7 +37,8 @@ final class PiecesCases {
                 are(1, LMIN, LMAX, 0); are(2, LMIN, LMAX, 0); are(3, LMIN, LMAX, 0); are(4, LMIN, LMAX, 0); are(5, LMIN, LMAX, 0); read(0) = ENDS
                 """);
         doc.says(quote, "24 NUMBERS by each CODER", """
-                row(1, 24); put(0, 0, -128); put(0, 22, 126); put(0, 23, 127); stream(); write(0, 0, 0); write(0, 0, 1); write(0, 0, 2); write(0, 0, 3); write(0, 0, 4)
+                row(1, 24); put(0, 0, -128); put(0, 22, 126); put(0, 23, 127); stream(); write(0, 0, 0); write(0, 0, 1); write(0, 0, 2)
+                write(0, 0, 3); write(0, 0, 4)
                 pieces(0) = 5; 5 x read(0) = @+1
                 5 x get(@+1, 0) -> -128
                 5 x get(@+1, 1) -> 0
@@ -64,7 +65,8 @@ final class PiecesCases {
                 add(0, 0); read(0) = SHORT; add(0, 0); read(0) = SHORT; add(0, 160); read(0) = SHORT; add(0, 176); read(0) = 0
                 """);
         doc.says(quote, "the end of the bytes is the PLACE", """
-                stream(); piece(0, 160, 4, 0); seek(0, 7); read(0) = ENDS; seek(0, 6); read(0) = SHORT; seek(0, 1); read(0) = SHORT; seek(0, 0); read(0) = 0
+                stream(); piece(0, 160, 4, 0); seek(0, 7); read(0) = ENDS; seek(0, 6); read(0) = SHORT; seek(0, 1); read(0) = SHORT
+                seek(0, 0); read(0) = 0
                 """);
         doc.says(quote, "one byte less than the PIECE has; by the fifth byte", """
                 stream(); bytes(0, 160, 4, 1, 1, 0, 2, 9); read(0) = SHORT; add(0, 9); read(0) = HARMED
@@ -85,7 +87,8 @@ final class PiecesCases {
         doc.says(MADE, "marks 160 and 164, not 159 and 165", """
                 stream(); piece(0, 159, 4, 0); read(0) = HARMED; stream(); piece(1, 160, 4, 0); read(1) = 0
                 stream(); piece(2, 164, 4, 0, 1); read(2) = 1; stream(); piece(3, 165, 4, 0, 1); read(3) = HARMED
-                stream(); piece(4, 0, 4, 0); read(4) = HARMED; stream(); piece(5, 255, 4, 0); read(5) = HARMED; stream(); piece(6, 32, 4, 0); read(6) = HARMED
+                stream(); piece(4, 0, 4, 0); read(4) = HARMED; stream(); piece(5, 255, 4, 0); read(5) = HARMED; stream(); piece(6, 32, 4, 0)
+                read(6) = HARMED
                 """);
         doc.says(MADE, "KINDS 0 and 7, not 8 and 255", """
                 stream(); piece(0, 160, 0, 0); read(0) = 0; stream(); piece(1, 160, 7, 0); read(1) = 1
@@ -146,7 +149,8 @@ final class PiecesCases {
                 stream(); piece(6, 163, 4, 1, 14, 0); read(6) = 2; stream(); piece(7, 163, 4, 1, 14, 1); read(7) = HARMED
                 """);
         doc.says(MADE, "RUNS: as long as can be", """
-                stream(); piece(0, 163, 4, 2, 14, 0, 14, 0); read(0) = HARMED; stream(); piece(1, 163, 4, 3, 14, 0, 16, 0, 14, 0); read(1) = 0; are(0, 7, 8, 7)
+                stream(); piece(0, 163, 4, 2, 14, 0, 14, 0); read(0) = HARMED; stream(); piece(1, 163, 4, 3, 14, 0, 16, 0, 14, 0)
+                read(1) = 0; are(0, 7, 8, 7)
                 stream(); piece(2, 163, 4, 4, 14, 2, 14, 2); read(2) = HARMED
                 """);
         doc.says(MADE, "RUNS: no NUMBERS, no length, a length in more bytes, an endless length", """
@@ -159,7 +163,8 @@ final class PiecesCases {
                 """);
         doc.says(MADE, "RUNS: 24, and a run of 25", """
                 stream(); piece(0, 163, 4, 24, 0, 46); read(0) = 0; stream(); piece(1, 163, 4, 24, 0, 48); read(1) = HARMED
-                stream(); piece(2, 163, 4, 24, 0, 44, 2, 0); read(2) = 1; get(1, 23) -> 1; stream(); piece(3, 163, 4, 24, 0, 44, 2, 2); read(3) = HARMED
+                stream(); piece(2, 163, 4, 24, 0, 44, 2, 0); read(2) = 1; get(1, 23) -> 1; stream(); piece(3, 163, 4, 24, 0, 44, 2, 2)
+                read(3) = HARMED
                 stream(); piece(4, 163, 4, 24, 0, 44); read(4) = HARMED
                 """);
     }
@@ -189,7 +194,8 @@ final class PiecesCases {
 
     private static void kinds(Sentences doc) {
         doc.says(MADE, "truths and bytes: the last NUMBERS of the KIND, and those behind", """
-                stream(); piece(0, 160, 0, 1, 2); read(0) = 0; stream(); piece(1, 160, 0, 1, 4); read(1) = HARMED; stream(); piece(2, 160, 0, 1, 1); read(2) = HARMED
+                stream(); piece(0, 160, 0, 1, 2); read(0) = 0; stream(); piece(1, 160, 0, 1, 4); read(1) = HARMED; stream()
+                piece(2, 160, 0, 1, 1); read(2) = HARMED
                 stream(); piece(3, 160, 1, 2, 254, 1, 255, 1); read(3) = 1; are(1, 127, -128)
                 stream(); piece(4, 160, 1, 1, 128, 2); read(4) = HARMED; stream(); piece(5, 160, 1, 1, 129, 2); read(5) = HARMED
                 """);
@@ -201,19 +207,24 @@ final class PiecesCases {
                 """);
         doc.says(MADE, "ints and floats", """
                 stream(); piece(0, 160, 4, 2, 254, 255, 255, 255, 15, 255, 255, 255, 255, 15); read(0) = 0; are(0, MAX, MIN)
-                stream(); piece(1, 160, 4, 1, 128, 128, 128, 128, 16); read(1) = HARMED; stream(); piece(2, 160, 4, 1, 129, 128, 128, 128, 16); read(2) = HARMED
-                stream(); piece(3, 160, 6, 1, 255, 255, 255, 255, 15); read(3) = 1; are(1, -0.0f); stream(); piece(4, 160, 6, 1, 128, 128, 128, 128, 16); read(4) = HARMED
+                stream(); piece(1, 160, 4, 1, 128, 128, 128, 128, 16); read(1) = HARMED; stream()
+                piece(2, 160, 4, 1, 129, 128, 128, 128, 16); read(2) = HARMED
+                stream(); piece(3, 160, 6, 1, 255, 255, 255, 255, 15); read(3) = 1; are(1, -0.0f); stream()
+                piece(4, 160, 6, 1, 128, 128, 128, 128, 16); read(4) = HARMED
                 """);
         doc.says(MADE, "the GAP of floats, and what would be another", """
-                stream(); piece(0, 160, 6, 1, 128, 128, 128, 252, 15); read(0) = 0; are(0, GAPf); stream(); piece(1, 160, 6, 1, 130, 128, 128, 252, 15); read(1) = HARMED
-                stream(); piece(2, 160, 6, 1, 128, 128, 128, 248, 15); read(2) = 1; are(1, ENDLESSf); stream(); piece(3, 160, 6, 1, 130, 128, 128, 248, 15); read(3) = HARMED
+                stream(); piece(0, 160, 6, 1, 128, 128, 128, 252, 15); read(0) = 0; are(0, GAPf); stream()
+                piece(1, 160, 6, 1, 130, 128, 128, 252, 15); read(1) = HARMED
+                stream(); piece(2, 160, 6, 1, 128, 128, 128, 248, 15); read(2) = 1; are(1, ENDLESSf); stream()
+                piece(3, 160, 6, 1, 130, 128, 128, 248, 15); read(3) = HARMED
                 stream(); piece(4, 160, 6, 1, 1); read(4) = HARMED
                 """);
         doc.says(MADE, "the GAP of doubles, and what would be another", """
                 stream(); piece(0, 160, 7, 1, 128, 128, 128, 128, 128, 128, 128, 248, 255, 1); read(0) = 0; are(0, GAPd)
                 stream(); piece(1, 160, 7, 1, 130, 128, 128, 128, 128, 128, 128, 248, 255, 1); read(1) = HARMED
                 stream(); piece(2, 160, 7, 1, 128, 128, 128, 128, 128, 128, 128, 240, 255, 1); read(2) = 1; are(1, ENDLESSd)
-                stream(); piece(3, 160, 7, 1, 130, 128, 128, 128, 128, 128, 128, 240, 255, 1); read(3) = HARMED; stream(); piece(4, 160, 7, 1, 1); read(4) = HARMED
+                stream(); piece(3, 160, 7, 1, 130, 128, 128, 128, 128, 128, 128, 240, 255, 1); read(3) = HARMED; stream()
+                piece(4, 160, 7, 1, 1); read(4) = HARMED
                 """);
         doc.says(MADE, "the other CODERS go out of the KIND, at the last NUMBER", """
                 stream(); piece(0, 161, 1, 2, 254, 1, 2); read(0) = HARMED; stream(); piece(1, 161, 1, 2, 252, 1, 2); read(1) = 0; are(0, 126, 127)

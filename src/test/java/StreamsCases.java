@@ -114,7 +114,8 @@ final class StreamsCases {
         doc.ofPromise(17);
         String quote = "The CODER that makes the fewest bytes of a ROW (of like ones the least).";
         doc.says(quote, "no NUMBERS, one NUMBER: four and three are alike", """
-                row(4, 0); best(0) = 0; row(4, 1); numbers(1, 5); best(1) = 0; row(5, 1); numbers(2, LMIN); best(2) = 4; cost(2, 0) = 10; cost(2, 4) = 9
+                row(4, 0); best(0) = 0; row(4, 1); numbers(1, 5); best(1) = 0; row(5, 1); numbers(2, LMIN); best(2) = 4; cost(2, 0) = 10
+                cost(2, 4) = 9
                 """);
         doc.says(quote, "PLAIN and STEPS alike, STEPS and TWICE, TWICE and WIDE, RUNS and WIDE", """
                 row(4, 2); numbers(0, 1, 2); cost(0, 0) = 2; cost(0, 1) = 2; best(0) = 0
@@ -139,7 +140,8 @@ final class StreamsCases {
         doc.ofPromise(18);
         String quote = "One byte (the lowest 8 bits) comes behind an OPEN STREAM: how many it has.";
         doc.says(quote, "by 8 bits alone", """
-                stream(); add(0, 0) = 1; add(0, 255) = 2; add(0, 256) = 3; add(0, 257) = 4; add(0, -1) = 5; add(0, -128) = 6; add(0, MIN) = 7; add(0, MAX) = 8
+                stream(); add(0, 0) = 1; add(0, 255) = 2; add(0, 256) = 3; add(0, 257) = 4; add(0, -1) = 5; add(0, -128) = 6
+                add(0, MIN) = 7; add(0, MAX) = 8
                 has(0, 0, 255, 0, 1, 255, 128, 0, 255)
                 """);
         doc.says(quote, "the 400th; PLACE stays", FULL_ONE + "about(0, 1) = 0; at(0, 399) = 7; at(0, 391) = 130");
@@ -198,18 +200,21 @@ final class StreamsCases {
         doc.ofPromise(22);
         String quote = "Byte i of any STREAM becomes itself xor the lowest 8 bits of a mask: what it is then.";
         doc.says(quote, "by 8 bits alone, and by none", """
-                stream(); bytes(0, 0, 255, 5); harm(0, 0, 255) = 255; harm(0, 0, 256) = 255; harm(0, 0, -1) = 0; harm(0, 1, 0) = 255; harm(0, 2, 0x104) = 1
+                stream(); bytes(0, 0, 255, 5); harm(0, 0, 255) = 255; harm(0, 0, 256) = 255; harm(0, 0, -1) = 0; harm(0, 1, 0) = 255
+                harm(0, 2, 0x104) = 1
                 harm(0, 2, MIN) = 1; harm(0, 2, MAX) = 254; has(0, 0, 255, 254)
                 """);
         doc.says(quote, "the first and the last one, of an ENDED STREAM too", """
-                stream(); bytes(0, 1, 2, 3); end(0); harm(0, 0, 128) = 129; harm(0, 2, 128) = 131; has(0, 129, 2, 131); about(0, 2) = 1; about(0, 1) = 0
+                stream(); bytes(0, 1, 2, 3); end(0); harm(0, 0, 128) = 129; harm(0, 2, 128) = 131; has(0, 129, 2, 131); about(0, 2) = 1
+                about(0, 1) = 0
                 """);
         doc.says(quote, "no other STREAM, and no BODY", """
                 stream(); bytes(0, 1); end(0); house(); keep(0, 0, 0); take(0, 0) = 1; delta(0, 0); apply(0, 0) = 2
                 harm(0, 0, 2) = 3; at(1, 0) = 1; at(2, 0) = 1; take(0, 0) = 3; at(3, 0) = 1; harm(1, 0, 4) = 5; take(0, 0) = 4; at(4, 0) = 1
                 """);
         doc.says("UNKNOWN; INDEX.", "just outside; the order", """
-                stream(); harm(0, 0, 1) = INDEX; add(0, 5); harm(0, 1, 1) = INDEX; harm(0, -1, 1) = INDEX; harm(0, MIN, 1) = INDEX; harm(0, MAX, 1) = INDEX
+                stream(); harm(0, 0, 1) = INDEX; add(0, 5); harm(0, 1, 1) = INDEX; harm(0, -1, 1) = INDEX; harm(0, MIN, 1) = INDEX
+                harm(0, MAX, 1) = INDEX
                 harm(1, 0, 1) = UNKNOWN; harm(-1, 0, 1) = UNKNOWN; harm(1, 9, 1) = UNKNOWN; harm(MAX, -1, 1) = UNKNOWN; harm(MIN, 0, 1) = UNKNOWN
                 """);
     }

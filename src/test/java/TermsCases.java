@@ -435,7 +435,8 @@ final class TermsCases {
                 delta(1, 2) = 1; act(1, -1, 0) = 1; act(1, 0, 1) = 0; act(1, 0, 2) = 4
                 """);
         doc.says(quote, "behind the end there is no byte 0", """
-                stream(); bytes(0, 9, 1, 2, 3, 4); stream(); bytes(1, 1, 2, 3, 4, 0); stream(); bytes(2, 7, 1, 2, 3, 4); stream(); bytes(3, 1, 2, 3, 4, 0)
+                stream(); bytes(0, 9, 1, 2, 3, 4); stream(); bytes(1, 1, 2, 3, 4, 0); stream(); bytes(2, 7, 1, 2, 3, 4); stream()
+                bytes(3, 1, 2, 3, 4, 0)
                 delta(0, 1) = 0; act(0, -1, 0) = 2; act(0, 0, 1) = 1; act(0, 0, 2) = 4; act(0, 1, 0) = 1; act(0, 1, 2) = 1
                 delta(3, 2) = 1; act(1, -1, 0) = 2; act(1, 0, 2) = 1; act(1, 1, 1) = 0; act(1, 1, 2) = 4; stream(); bytes(4, 1, 2, 3)
                 stream(); bytes(5, 9, 1, 2, 3, 0); delta(4, 5) = 2; act(2, -1, 1) = 0; delta(5, 4) = 3; act(3, -1, 1) = 0
@@ -534,7 +535,7 @@ final class TermsCases {
                 compare(3, 0, 0) = UNKNOWN; compare(2, 0, 0) = NULL; compare(0, 0, 3) = INDEX; compare(0, 3, 0) = INDEX
                 shape(3, 0, 0) = UNKNOWN; shape(0, 0, 6) = OUTSIDE; shape(0, 0, 1) = STATE; shape(2, 0, 0) = NULL; shape(1, 2, 1) = INDEX
                 rest(3, 0, 0) = UNKNOWN; rest(2, 0, 0) = NULL; rest(0, 3, 0) = INDEX; rest(0, 0, 1) = ZERO; rest(1, 0, 1) = ZERO; rest(1, 1, 0) = ZERO
-                most(3, 0) = UNKNOWN; most(0, 3) = OUTSIDE; most(2, 0) = NULL; seen() = 7
+                most(3, 0) = UNKNOWN; most(0, 3) = OUTSIDE; most(2, 0) = NULL; put(1, 0, GAPf); most(1, 0) = ZERO; most(1, 1) = ZERO; seen() = 7
                 """);
         doc.says(quote, "the calls of STREAMS", SOMETHING_OF_ALL + """
                 write(4, 0, 0) = UNKNOWN; write(0, 3, 0) = UNKNOWN; write(0, 0, 5) = OUTSIDE; write(1, 0, 0) = STATE; write(0, 2, 0) = NULL
@@ -555,7 +556,8 @@ final class TermsCases {
                 """);
         doc.says(quote, "the calls of DELTAS, and what is told", SOMETHING_OF_ALL + """
                 delta(4, 0) = UNKNOWN; delta(0, 4) = UNKNOWN; act(1, 0, 0) = UNKNOWN; act(0, 0, 3) = OUTSIDE; act(0, 9, 0) = INDEX
-                apply(1, 1) = UNKNOWN; apply(0, 4) = UNKNOWN; apply(0, 2) = MISFIT; apply(0, 3) = MISFIT; findings(0) = OUTSIDE; findings(10) = OUTSIDE
+                apply(1, 1) = UNKNOWN; apply(0, 4) = UNKNOWN; apply(0, 2) = MISFIT; apply(0, 3) = MISFIT; findings(0) = OUTSIDE
+                findings(10) = OUTSIDE
                 count(6) = OUTSIDE; count(-1) = OUTSIDE; apply(0, 1) = 4; has(4, 9, 1, 2, 3, 4)
                 """);
         doc.says(quote, "what is FULL", ALL_FULL + """

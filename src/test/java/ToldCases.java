@@ -19,7 +19,8 @@ final class ToldCases {
                 house() = FULL; find(0, 0) = NONE; finding() = 0
                 """);
         doc.says(quote, "the latest, not the greatest, and it stays", """
-                stream(); read(0) = ENDS; finding() = 6; row(0, -1) = SIZE; finding() = 4; at(0, 0) = INDEX; finding() = 2; row(0, 0) = 0; kind(1) = UNKNOWN
+                stream(); read(0) = ENDS; finding() = 6; row(0, -1) = SIZE; finding() = 4; at(0, 0) = INDEX; finding() = 2; row(0, 0) = 0
+                kind(1) = UNKNOWN
                 finding() = 2; finding() = 2; findings(2) = 1; read(0) = ENDS; finding() = 6
                 """);
         doc.says(quote, "pieces() answers none", "stream(); pieces(0) = 0; add(0, 1); pieces(0) = 0; bytes(0, 1, 1, 0, 0, 1, 1); pieces(0) = 0; finding() = 0");
@@ -31,13 +32,17 @@ final class ToldCases {
         doc.says(quote, "each by its own count", """
                 9 x findings(@+1) = 0
                 stream(); row(4, 1); row(5, 1); row(4, 0); lose(2); delta(0, 0)
-                lose(2) = NULL; length(2) = NULL; get(0, 1) = INDEX; copy(0, 0, 1, 0, 1) = CAST; row(0, -1) = SIZE; rest(0, 0, 0) = ZERO; rest(1, 0, 0) = ZERO
-                read(0) = ENDS; add(0, 1); read(0) = SHORT; read(0) = SHORT; read(0) = SHORT; apply(0, 0) = MISFIT; bytes(0, 0, 0, 0, 0, 0, 0); read(0) = HARMED
-                findings(1) = 2; findings(2) = 1; findings(3) = 1; findings(4) = 1; findings(5) = 2; findings(6) = 1; findings(7) = 3; findings(8) = 1; findings(9) = 1
+                lose(2) = NULL; length(2) = NULL; get(0, 1) = INDEX; copy(0, 0, 1, 0, 1) = CAST; row(0, -1) = SIZE; rest(0, 0, 0) = ZERO
+                rest(1, 0, 0) = ZERO
+                read(0) = ENDS; add(0, 1); read(0) = SHORT; read(0) = SHORT; read(0) = SHORT; apply(0, 0) = MISFIT
+                bytes(0, 0, 0, 0, 0, 0, 0); read(0) = HARMED
+                findings(1) = 2; findings(2) = 1; findings(3) = 1; findings(4) = 1; findings(5) = 2; findings(6) = 1; findings(7) = 3
+                findings(8) = 1; findings(9) = 1
                 """);
         doc.says(quote, "as often as there are calls", "500 x row(0, -1) = SIZE\nfindings(4) = 500; findings(1) = 0; finding() = 4");
         doc.says("OUTSIDE.", "1 and 9, not 0 and 10", """
-                findings(1) = 0; findings(9) = 0; findings(0) = OUTSIDE; findings(10) = OUTSIDE; findings(-1) = OUTSIDE; findings(MIN) = OUTSIDE; findings(MAX) = OUTSIDE
+                findings(1) = 0; findings(9) = 0; findings(0) = OUTSIDE; findings(10) = OUTSIDE; findings(-1) = OUTSIDE
+                findings(MIN) = OUTSIDE; findings(MAX) = OUTSIDE
                 findings(-11) = OUTSIDE; finding() = 0
                 """);
     }
@@ -55,7 +60,8 @@ final class ToldCases {
                 count(0) = 6; count(1) = 5; count(2) = 1; count(3) = 2; count(4) = 3; count(5) = 7
                 """);
         doc.says(quote, "LOST ones, ENDED ones, read, taken and applied ones", """
-                row(0, 0); lose(0); count(0) = 1; stream(); write(0, 0, 0) = NULL; piece(0, 160, 0, 0); read(0) = 1; count(0) = 2; end(0); house(); keep(0, 0, 0)
+                row(0, 0); lose(0); count(0) = 1; stream(); write(0, 0, 0) = NULL; piece(0, 160, 0, 0); read(0) = 1; count(0) = 2; end(0)
+                house(); keep(0, 0, 0)
                 take(0, 0) = 1; count(1) = 2; delta(0, 0); apply(0, 0) = 2; count(1) = 3; drop(0, 0); count(2) = 0; count(3) = 1
                 """);
         doc.says(quote, "all that there may be", """
