@@ -1,7 +1,7 @@
 /** The boundary cases of the promises 26 to 32: THE STORE and its HOUSES. */
 final class HousesCases {
     /** STREAM 0 is ENDED, and the HOUSES 0 to 2 have 30 BODIES of one byte each; the PATHS are 0 to 29 as the BODIES are. */
-    static final String THIRTY = "6 x house()\nstream(); add(0, 0); end(0)\n" + thirtyBodies();
+    static final String THIRTY = "6 x house()\nstream(); add(0, 0); end(0)\n" + thirtyBodies(0);
 
     private HousesCases() {
     }
@@ -18,12 +18,11 @@ final class HousesCases {
         uses(doc);
     }
 
-    /** STREAM 0 has one byte, 0, and is ENDED: the HOUSES 0 to 2 come to have the BODIES 0 to 29, and STREAM 0 has 29. */
-    static String thirtyBodies() {
-        StringBuilder calls = new StringBuilder("keep(0, 0, 0) = 0\n");
+    /** A STREAM has one byte, 0, and is ENDED: the HOUSES 0 to 2 come to have the BODIES 0 to 29, and the STREAM has 29. */
+    static String thirtyBodies(int s) {
+        StringBuilder calls = new StringBuilder("keep(0, 0, " + s + ") = 0\n");
         for (int n = 1; n < 30; n++) {
-            calls.append("harm(0, 0, ").append((n - 1) ^ n).append("); keep(").append(n / 12).append(", ").append(n)
-                    .append(", 0) = ").append(n).append("\n");
+            calls.append(String.format("harm(%d, 0, %d); keep(%d, %d, %d) = %d\n", s, (n - 1) ^ n, n / 12, n, s, n));
         }
         return calls.append("count(2) = 30\n").toString();
     }

@@ -336,7 +336,7 @@ final class TermsCases {
                 + " numbered as they come (no number twice), each as long as an ENTRY has it.";
         doc.says(quote, "30, not 31, and a 31st when one is gone", """
                 stream(); add(0, 0); end(0); 4 x house()
-                """ + HousesCases.thirtyBodies() + """
+                """ + HousesCases.thirtyBodies(0) + """
                 count(3) = 30; harm(0, 0, 255); keep(3, 0, 0) = FULL; keep(0, 0, 0) = FULL
                 drop(0, 0) = 0; count(2) = 29; keep(3, 0, 0) = 30; count(2) = 30; count(3) = 31
                 """);
@@ -508,8 +508,8 @@ final class TermsCases {
             """;
 
     /**
-     * 60 ROWS: 0 of ints, 1 of longs, 2 LOST. 24 STREAMS: 0 ENDED, 1 with 400 bytes, 2 with a PIECE, 3 ENDED and with no bytes. 6 HOUSES
-     * with 30 BODIES: 0 and 1 have 12 ENTRIES, 2 has 6. 16 DELTAS, of STREAM 1 to itself. SEEN is 3.
+     * 60 ROWS: 0 of ints, 1 of longs, 2 LOST. 24 STREAMS: 0 OPEN with a PIECE, 1 with 400 bytes, 4 ENDED. 6 HOUSES with 30 BODIES:
+     * 0 and 1 have 12 ENTRIES, 2 has 6. 16 DELTAS, of STREAM 1 to itself. SEEN is 3.
      */
     private static final String ALL_FULL = """
             row(4, 1); put(0, 0, 3); row(5, 1); row(4, 1); lose(2); 57 x row(0, 0)
@@ -517,9 +517,9 @@ final class TermsCases {
             6 x house()
             56 x write(1, 3, 0)
             8 x add(1, 5)
-            write(2, 0, 0); seek(1, 7); add(0, 0); end(0); end(3)
+            write(0, 0, 0); seek(1, 7); add(4, 0); end(4)
             16 x delta(1, 1)
-            """ + HousesCases.thirtyBodies() + "get(0, 0) -> 3\n";
+            """ + HousesCases.thirtyBodies(4) + "get(0, 0) -> 3\n";
 
     /** Each refusal and each FINDING of each call; Twins looks whether all is as it was. */
     private static void allIsAsItWas(Sentences doc) {
@@ -561,8 +561,8 @@ final class TermsCases {
                 count(6) = OUTSIDE; count(-1) = OUTSIDE; apply(0, 1) = 4; has(4, 9, 1, 2, 3, 4)
                 """);
         doc.says(quote, "what is FULL", ALL_FULL + """
-                row(0, 0) = FULL; stream() = FULL; write(1, 0, 0) = FULL; add(1, 1) = FULL; read(2) = FULL; house() = FULL; keep(0, 40, 0) = FULL
-                take(0, 0) = FULL; delta(0, 0) = FULL; apply(0, 1) = FULL; harm(0, 0, 128); keep(3, 0, 0) = FULL; keep(0, 0, 0) = FULL
+                row(0, 0) = FULL; stream() = FULL; write(1, 0, 0) = FULL; add(1, 1) = FULL; read(0) = FULL; house() = FULL; keep(0, 40, 4) = FULL
+                take(0, 0) = FULL; delta(0, 0) = FULL; apply(0, 1) = FULL; harm(4, 0, 128); keep(3, 0, 4) = FULL; keep(0, 0, 4) = FULL
                 """);
     }
 
